@@ -86,7 +86,7 @@ public final class OneReturns {
         if (fault >= 0) {
             return -10 - fault;
         }
-        history.record(now);
+        history.remember(now);
         now.hold(reader.signs, reader.length);
         typedSize = 0;
         analyse();
@@ -97,7 +97,7 @@ public final class OneReturns {
         if (x == now.x && y == now.y) {
             return STATE;
         }
-        history.record(now);
+        history.remember(now);
         now.x = x;
         now.y = y;
         return 1;
@@ -112,7 +112,7 @@ public final class OneReturns {
         if (times == 0) {
             return STATE;
         }
-        history.record(now);
+        history.remember(now);
         now.hold(shrinker.signs, shrinker.length);
         analyse();
         return times;
@@ -475,7 +475,7 @@ public final class OneReturns {
             size = 0;
         }
 
-        void record(Moment moment) {
+        void remember(Moment moment) {
             if (size == RECORDED) {
                 oldest = (oldest + 1) % RECORDED;
                 size--;
@@ -747,13 +747,14 @@ public final class OneReturns {
         }
 
         int third(int p) {
-            int q = second(p);
+            int q = p + 1 + at(span, p + 1);
             return q + at(span, q);
         }
 
         int usesIn(int p, int wantedLetter) {
             int found = 0;
-            for (int q = p; q < p + at(span, p); q++) {
+            int after = p + at(span, p);
+            for (int q = p; q < after; q++) {
                 if (at(letter, q) == wantedLetter) {
                     found++;
                 }
@@ -763,7 +764,8 @@ public final class OneReturns {
 
         int callsIn(int p, int called) {
             int found = 0;
-            for (int q = p; q < p + at(span, p); q++) {
+            int after = p + at(span, p);
+            for (int q = p; q < after; q++) {
                 if (at(letter, q) == '!' && at(name, q) == called) {
                     found++;
                 }
@@ -777,12 +779,15 @@ public final class OneReturns {
         private final int[] tail;
         /** The function in whose body an expression is, 0 if it is in none. */
         private final int[] body;
+        /** By call, how many ways of counting frames give it one: way 0, ways 0 and 1, or all. */
+        private final int[] ways;
         private final int[] definition;
         private final int[] comeback;
 
         Flow() {
             tail = new int[ROOM];
             body = new int[ROOM];
+            ways = new int[ROOM];
             definition = new int[FUNCTIONS];
             comeback = new int[FUNCTIONS];
         }
@@ -802,6 +807,10 @@ public final class OneReturns {
             boolean changed = true;
             for (int round = 0; round < 3 * FUNCTIONS && changed; round++) {
                 changed = considerAll(tree);
+            }
+            for (int p = 0; p < tree.size; p++) {
+                int withJump = isJump(at(tree.name, p)) ? 2 : 3;
+                put(ways, p, isTail(p) ? 1 : withJump);
             }
         }
 
@@ -845,7 +854,7 @@ public final class OneReturns {
         }
 
         private int givenBy(int p) {
-            if (!isTail(p)) {
+            if (at(tail, p) == 0) {
                 return p;
             }
             int around = at(body, p);
@@ -854,6 +863,10 @@ public final class OneReturns {
 
         boolean isTail(int p) {
             return at(tail, p) == 1;
+        }
+
+        int waysOf(int call) {
+            return at(ways, call);
         }
 
         /** The number of the defining expression, negative if there is none. */
@@ -1054,30 +1067,22 @@ public final class OneReturns {
                 begin(tree.first(p), scope);
             } else if (stage == 1) {
                 calls++;
-                countFrames(flow, p, called, 1);
+                countFrames(flow.waysOf(p), 1);
                 int definition = flow.definitionOf(called);
                 int inner = link(find(scope, called), at(tree.parameter, definition), value);
                 begin(tree.first(definition), inner);
             } else {
-                countFrames(flow, p, called, -1);
+                countFrames(flow.waysOf(p), -1);
                 give(value);
             }
         }
 
-        private void countFrames(Flow flow, int p, int called, int change) {
-            countFrame(0, change);
-            if (!flow.isTail(p)) {
-                countFrame(1, change);
-                if (!flow.isJump(called)) {
-                    countFrame(2, change);
-                }
+        private void countFrames(int ways, int change) {
+            for (int way = 0; way < ways; way++) {
+                int present = at(presentFrames, way) + change;
+                put(presentFrames, way, present);
+                put(mostFrames, way, Math.max(present, at(mostFrames, way)));
             }
-        }
-
-        private void countFrame(int way, int change) {
-            int present = at(presentFrames, way) + change;
-            put(presentFrames, way, present);
-            put(mostFrames, way, Math.max(present, at(mostFrames, way)));
         }
 
         private int link(int outer, int name, int named) {
@@ -1286,8 +1291,8 @@ public final class OneReturns {
         }
 
         private void copySign(int c) {
-            if (builtLength < ROOM) {
-                put(built, builtLength, c);
+            if (builtLength >= 0 && builtLength < built.length) {
+                built[builtLength] = c;
                 builtLength++;
             }
         }
