@@ -1,5 +1,3 @@
-import java.util.LinkedHashMap;
-import java.util.Map;
 import java.util.function.Supplier;
 import java.util.function.ToIntFunction;
 
@@ -70,25 +68,25 @@ final class ErrorBoundaries {
         refused(ErrorBoundaries::full, "back(-1)", o -> o.back(-1), Made.BAD);
     }
 
+    private static void question(int promise, String name, ToIntFunction<OneReturns> call) {
+        Sentences.says(promise, "Errors", "A call that returns an error changes nothing.");
+        refused(ErrorBoundaries::full, name, call, Made.BAD);
+    }
+
     static void questionsChangeNothing() {
-        Sentences.says(8, "Errors", "A call that returns an error changes nothing.");
-        Map<String, ToIntFunction<OneReturns>> calls = new LinkedHashMap<>();
-        calls.put("part(60, 0)", o -> o.part(60, 0));
-        calls.put("part(0, 4)", o -> o.part(0, 4));
-        calls.put("told(-2)", o -> o.told(-2));
-        calls.put("uses(105)", o -> o.uses(105));
-        calls.put("function(71, 0)", o -> o.function(71, 0));
-        calls.put("function(65, 5)", o -> o.function(65, 5));
-        calls.put("last(60)", o -> o.last(60));
-        calls.put("cost(3)", o -> o.cost(3));
-        calls.put("frames(3)", o -> o.frames(3));
-        calls.put("often(60)", o -> o.often(60));
-        calls.put("next(2)", o -> o.next(2));
-        calls.put("shortest(2)", o -> o.shortest(2));
-        calls.put("count(6)", o -> o.count(6));
-        for (Map.Entry<String, ToIntFunction<OneReturns>> call : calls.entrySet()) {
-            refused(ErrorBoundaries::full, call.getKey(), call.getValue(), Made.BAD);
-        }
+        question(8, "part(60, 0)", o -> o.part(60, 0));
+        question(8, "part(0, 4)", o -> o.part(0, 4));
+        question(9, "told(-2)", o -> o.told(-2));
+        question(10, "uses(105)", o -> o.uses(105));
+        question(11, "function(71, 0)", o -> o.function(71, 0));
+        question(11, "function(65, 5)", o -> o.function(65, 5));
+        question(12, "last(60)", o -> o.last(60));
+        question(15, "cost(3)", o -> o.cost(3));
+        question(16, "frames(3)", o -> o.frames(3));
+        question(17, "often(60)", o -> o.often(60));
+        question(18, "next(2)", o -> o.next(2));
+        question(19, "shortest(2)", o -> o.shortest(2));
+        question(25, "count(6)", o -> o.count(6));
     }
 
     static void meanings() {

@@ -41,6 +41,7 @@ final class ImageBoundaries {
         Sentences.says(23, "Returns the number of expressions of the program");
         Sentences.due("of a new object", new OneReturns().keep(0), 1);
         Sentences.due("of the longest program", Made.with(TextBoundaries.LONGEST).keep(1), 60);
+        Sentences.due("of a program with names", Made.with("@Faa!F1").keep(0), 4);
         Sentences.says(23, "BAD if image is out of range.");
         OneReturns o = new OneReturns();
         for (int image : new int[] {-1, 2, Made.MIN, Made.MAX}) {
@@ -94,16 +95,19 @@ final class ImageBoundaries {
 
     static void backAnswers() {
         Sentences.says(24, "Returns the number of expressions of the program then");
-        OneReturns o = Made.with("+12");
+        OneReturns o = Made.with("@Faa!F1");
         o.keep(0);
-        o.shrinks(1);
+        o.shrinks(60);
         o.keep(1);
-        Sentences.due("back(0)", o.back(0), 3);
+        Sentences.due("back(0)", o.back(0), 4);
         Sentences.due("back(1)", o.back(1), 1);
         Sentences.says(24, "BAD if image is out of range");
         for (int image : new int[] {-1, 2, Made.MIN, Made.MAX}) {
             Sentences.due("back(" + image + ")", o.back(image), Made.BAD);
         }
+        Sentences.says(24, "`image`: 0 or 1");
+        Sentences.due("back(0) then", o.back(0), 4);
+        Sentences.due("back(1) then", o.back(1), 1);
         Sentences.says(24, "STATE if the image is empty.");
         OneReturns half = new OneReturns();
         Sentences.due("back(0) of a new object", half.back(0), Made.STATE);

@@ -171,6 +171,16 @@ final class RunBoundaries {
         OneReturns two = Made.with(TWO_LOOPS, 24, 24);
         Sentences.due("calls of two loops", two.cost(1), 50);
         Sentences.due("depth of two loops", two.cost(2), 25);
+        OneReturns again = Made.with(LOOP, 48, 0);
+        again.run();
+        again.inputs(0, 0);
+        int[] fewest = {6, 1, 1};
+        for (int what = 0; what < fewest.length; what++) {
+            Sentences.due("cost(" + what + ") after a longer run", again.cost(what), fewest[what]);
+        }
+        Made.type(again, "7");
+        again.reads();
+        Sentences.due("depth, where there is no call any more", again.cost(2), 0);
     }
 
     static void costErrors() {
@@ -236,7 +246,10 @@ final class RunBoundaries {
         o.inputs(-1, 0);
         Sentences.due("too long", o.frames(1), Made.NONE);
         o.inputs(1, 0);
-        Sentences.due("after a run that was too long", o.frames(1), 1);
+        int[] after = {2, 1, 1};
+        for (int way = 0; way < after.length; way++) {
+            Sentences.due("way " + way + " after a run that was too long", o.frames(way), after[way]);
+        }
         Sentences.due("the most", Made.with(LOOP, 48, 0).frames(0), 49);
     }
 

@@ -35,6 +35,9 @@ final class ShrinkBoundaries {
         noRule("+x1");
         noRule("-1x");
         noRule("*0x");
+        noRule("*x0");
+        noRule("+*xy9");
+        noRule("-9+xy");
         noRule("-xx");
         noRule("++551");
     }
@@ -65,6 +68,7 @@ final class ShrinkBoundaries {
         rule(":a+xy*xy", 0, 3, "*xy");
         rule(":a@Fbb37", 0, 3, "7");
         rule(":a+xy:b*xya", 0, 5, ":b*xy+xy");
+        rule("@Fb!Fb:a+xy!F1", 3, 3, "@Fb!Fb!F1");
         noRule("@Fb!Fb:a!F17");
         noRule("@Fb!Fb:a+1!F17");
         noRule(":a@Fb!Fb!F17");
@@ -94,6 +98,7 @@ final class ShrinkBoundaries {
         rule(":a+xy-*2ay", 0, 5, "-*2+xyy");
         rule(":a*xx@Fb+ab+!F1!F2", 0, 5, "@Fb+*xxb+!F1!F2");
         rule(":a@Fbb3+a1", 0, 5, "+@Fbb31");
+        rule("@Fb!Fb:a+xy!Fa", 3, 5, "@Fb!Fb!F+xy");
         noRule(":a+xy*aa");
         noRule(":a+xy+a*aa");
         noRule("@Fb!Fb:a!F1+a2");

@@ -132,6 +132,47 @@ final class TextBoundaries {
         Sentences.due("the program stays then", Made.text(o), "+12");
     }
 
+    /** What is asked of a program that is read when the object held a longer one. */
+    private static void sameAsAlone(String longer, String shorter) {
+        OneReturns o = Made.with(longer);
+        o.run();
+        o.shortest(0);
+        o.next(0);
+        Made.type(o, shorter);
+        o.reads();
+        Sentences.due(shorter + " after " + longer, asked(o), asked(Made.with(shorter)));
+    }
+
+    private static String asked(OneReturns o) {
+        StringBuilder s = new StringBuilder(Made.text(o));
+        for (char c : "abxy".toCharArray()) {
+            s.append(' ').append(o.uses(c));
+        }
+        for (int what = 0; what < 5; what++) {
+            s.append(' ').append(o.function('F', what)).append(' ').append(o.function('E', what));
+        }
+        for (int what = 0; what < 3; what++) {
+            s.append(' ').append(o.count(what)).append(' ').append(o.cost(what)).append(' ').append(o.frames(what));
+        }
+        for (int p = 0; p < 12; p++) {
+            s.append(' ').append(o.part(p, 0)).append(' ').append(o.part(p, 1)).append(' ').append(o.last(p)).append(' ').append(o.often(p));
+        }
+        s.append(' ').append(o.next(0)).append(' ').append(o.next(1)).append(' ').append(o.shortest(0)).append(' ').append(o.shortest(1));
+        return s.append(' ').append(o.run()).append(' ').append(o.status()).append(' ').append(o.shrinks(60)).toString();
+    }
+
+    static void shorterThanBefore() {
+        Sentences.says(4, "Reads the program from the text buffer");
+        sameAsAlone("+xx", "1");
+        sameAsAlone("?xy+12", "+xy");
+        sameAsAlone("@Faa?1!F2!F3", "@Faa!F1");
+        sameAsAlone("@Faa?1!F2!F3", "@Fa!Fa7");
+        sameAsAlone("@Faa?1!F2!F3", "7");
+        sameAsAlone("@Fa!Fa!F1", ":a1a");
+        sameAsAlone(LONGEST, "x");
+        sameAsAlone("x", "@Faa?1!F2!F3");
+    }
+
     static void othersStay() {
         Sentences.says(4, "The inputs, the observations and the images stay.");
         OneReturns o = Made.with("+xy", 3, 4);
@@ -226,6 +267,17 @@ final class TextBoundaries {
         Sentences.due("of a choice's other expression", Made.reads("?0:a1aa"), -16);
         Sentences.due("of an argument", Made.reads("@Faa+!F:b1bb"), -21);
         Sentences.due("known around a body", Made.reads(":a1@Fb+ab!Fa"), 8);
+        OneReturns o = Made.typed("@Fa:b1+");
+        Sentences.due("a text that ends where a, b and F are known", o.reads(), -17);
+        o.clear();
+        Made.type(o, "a");
+        Sentences.due("its parameter in the next text", o.reads(), -10);
+        o.clear();
+        Made.type(o, "+1b");
+        Sentences.due("its name in the next text", o.reads(), -12);
+        o.clear();
+        Made.type(o, "!F1");
+        Sentences.due("its function in the next text", o.reads(), -11);
     }
 
     static void introducedNames() {
