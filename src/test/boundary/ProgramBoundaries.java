@@ -38,7 +38,7 @@ final class ProgramBoundaries {
     }
 
     static void overflow() {
-        Sentences.says(13, "Programs", "sum, difference, product (int arithmetic with overflow).");
+        Sentences.says(13, "Programs", "+EE, -EE, *EE: sum, difference, product (int arithmetic with overflow).");
         value("+xy", Made.MAX, 1, Made.MIN);
         value("+xy", Made.MIN, -1, Made.MAX);
         value("+xy", Made.MIN, Made.MIN, 0);
@@ -55,7 +55,7 @@ final class ProgramBoundaries {
     }
 
     static void choice() {
-        Sentences.says(13, "Programs", "a choice: the second one if the first one is 0, otherwise the third one.");
+        Sentences.says(13, "Programs", "?EEE: a choice: the second one if the first one is 0, otherwise the third one.");
         for (int x : new int[] {1, -1, Made.MIN, Made.MAX, 65536}) {
             value("?x45", x, 0, 5);
         }
@@ -65,7 +65,7 @@ final class ProgramBoundaries {
     }
 
     static void binding() {
-        Sentences.says(13, "Programs", "v, a to h, names the value of the first expression in the second one.");
+        Sentences.says(13, "Programs", ":vEE: a binding; v, a to h, names the value of the first expression in the second one.");
         value(":a1a", 0, 0, 1);
         value(":h2h", 0, 0, 2);
         value(":a+xy*aa", 2, 3, 25);
@@ -74,7 +74,7 @@ final class ProgramBoundaries {
     }
 
     static void definition() {
-        Sentences.says(13, "Programs", "the definition of the function F, A to F, with the parameter v, a to h");
+        Sentences.says(13, "Programs", "@FvEE: the definition of the function F, A to F, with the parameter v, a to h");
         value("@Aa+a1@Bb!Ab@Cc!Bc@Dd!Cd@Ee!De@Ff!Ef!Fx", 6, 0, 7);
         value("@Ah+h1!Ax", 1, 0, 2);
         Sentences.due("the letter after F", Made.reads("@Ga11"), -11);

@@ -16,6 +16,9 @@ final class Sentences {
     private static final int PROMISES = 26;
     private static final List<String> DESCRIPTION =
         List.of("Programs", "Texts", "Runs", "Tail calls and returns", "Simplification", "Errors", "The constants:");
+    /** The order of operands cannot be seen, since no operand changes anything; the others only lead over to what follows. */
+    private static final List<String> NOTHING_TO_ASK = List.of("Operands are evaluated from left to right", " and ", " `what`: ",
+        "The constructor and the methods follow, a promise each: the signature, then what it does.");
     private static final List<Quote> QUOTES = new ArrayList<>();
     private static int wrong = 0;
     private static int asked = 0;
@@ -94,7 +97,7 @@ final class Sentences {
         }
     }
 
-    /** Looks whether the words stand where they are said to, and whether each promise's answers are all quoted. */
+    /** Looks whether the words stand where they are said to, and whether every sentence is quoted. */
     static void compareWithDocument(Path document) throws IOException {
         boolean[] met = new boolean[PROMISES + 1];
         for (Quote q : QUOTES) {
@@ -115,21 +118,37 @@ final class Sentences {
                 fault("these words do not stand in '" + q.section + "': " + q.words);
             }
         }
-        for (int promise = 1; promise <= PROMISES; promise++) {
-            answersAreQuoted("Promise " + promise, sections.getOrDefault("Promise " + promise, ""));
+        for (Map.Entry<String, String> section : sections.entrySet()) {
+            if (DESCRIPTION.contains(section.getKey()) || section.getKey().startsWith("Promise ")) {
+                allIsQuoted(section.getKey(), section.getValue());
+            }
         }
     }
 
-    private static void answersAreQuoted(String section, String text) {
-        String body = text.replaceFirst("^ `[^`]*`", "");
-        String rest = body.substring(Math.max(0, body.lastIndexOf("Returns ")));
+    /** No word of a section may be left over, but for what no answer can show. */
+    private static void allIsQuoted(String section, String text) {
+        boolean[] quoted = new boolean[text.length()];
         for (Quote q : QUOTES) {
             if (q.section.equals(section)) {
-                rest = rest.replace(q.words, "");
+                mark(quoted, text, q.words);
             }
         }
-        if (rest.matches("(?s).*[A-Za-z0-9].*")) {
-            fault("in '" + section + "', no test says: " + rest);
+        for (String words : NOTHING_TO_ASK) {
+            mark(quoted, text, words);
+        }
+        StringBuilder rest = new StringBuilder();
+        for (int i = 0; i < text.length(); i++) {
+            rest.append(quoted[i] ? '|' : text.charAt(i));
+        }
+        String left = rest.toString().replaceFirst("^ `[^`]*`( ---- [a-z ]*[a-z](?= [A-Z|]))?", "").replaceAll("[^A-Za-z0-9]+", " ").trim();
+        if (!left.isEmpty()) {
+            fault("in '" + section + "', no test says: " + left);
+        }
+    }
+
+    private static void mark(boolean[] quoted, String text, String words) {
+        for (int from = text.indexOf(words); from >= 0; from = text.indexOf(words, from + 1)) {
+            Arrays.fill(quoted, from, from + words.length(), true);
         }
     }
 

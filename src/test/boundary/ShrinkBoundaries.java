@@ -24,7 +24,7 @@ final class ShrinkBoundaries {
     // ---- the rules
 
     static void rule1() {
-        Sentences.says(6, SECTION, "A sum, difference or product of two digits whose value is 0 to 9 becomes this digit.");
+        Sentences.says(6, SECTION, "1. A sum, difference or product of two digits whose value is 0 to 9 becomes this digit.");
         for (int a = 0; a <= 9; a++) {
             for (int b = 0; b <= 9; b++) {
                 operation("+" + a + b, a + b);
@@ -51,7 +51,7 @@ final class ShrinkBoundaries {
     }
 
     static void rule2() {
-        Sentences.says(6, SECTION, "A choice whose first expression is a digit becomes the second expression if the digit is 0, otherwise the third one.");
+        Sentences.says(6, SECTION, "2. A choice whose first expression is a digit becomes the second expression if the digit is 0, otherwise the third one.");
         rule("?0xy", 0, 2, "x");
         for (int digit = 1; digit <= 9; digit++) {
             rule("?" + digit + "xy", 0, 2, "y");
@@ -63,7 +63,7 @@ final class ShrinkBoundaries {
     }
 
     static void rule3() {
-        Sentences.says(6, SECTION, "A binding whose name is not used in its second expression becomes the second expression, if there is no call in the first one.");
+        Sentences.says(6, SECTION, "3. A binding whose name is not used in its second expression becomes the second expression, if there is no call in the first one.");
         rule(":a57", 0, 3, "7");
         rule(":a+xy*xy", 0, 3, "*xy");
         rule(":a@Fbb37", 0, 3, "7");
@@ -77,7 +77,7 @@ final class ShrinkBoundaries {
     }
 
     static void rule4() {
-        Sentences.says(6, SECTION, "A binding whose first expression is a digit, a name of a value, x or y becomes its second expression, in which each use of the name is replaced by the first expression.");
+        Sentences.says(6, SECTION, "4. A binding whose first expression is a digit, a name of a value, x or y becomes its second expression, in which each use of the name is replaced by the first expression.");
         for (int digit = 0; digit <= 9; digit++) {
             rule(":a" + digit + "*ax", 0, 4, "*" + digit + "x");
         }
@@ -92,7 +92,7 @@ final class ShrinkBoundaries {
     }
 
     static void rule5() {
-        Sentences.says(6, SECTION, "A binding whose name is used exactly once in its second expression becomes the second expression, in which this use is replaced by the first expression, if there is no call in the first one.");
+        Sentences.says(6, SECTION, "5. A binding whose name is used exactly once in its second expression becomes the second expression, in which this use is replaced by the first expression, if there is no call in the first one.");
         rule(":a+xya", 0, 5, "+xy");
         rule(":a+xy*a2", 0, 5, "*+xy2");
         rule(":a+xy-*2ay", 0, 5, "-*2+xyy");
@@ -107,7 +107,7 @@ final class ShrinkBoundaries {
     }
 
     static void rule6() {
-        Sentences.says(6, SECTION, "A definition whose function is not called in the second expression becomes the second expression.");
+        Sentences.says(6, SECTION, "6. A definition whose function is not called in the second expression becomes the second expression.");
         rule("@Faa7", 0, 6, "7");
         rule("@Fa!Fa+xy", 0, 6, "+xy");
         rule("@Fa@Eb!Fb!Ea7", 0, 6, "7");
@@ -117,7 +117,7 @@ final class ShrinkBoundaries {
     }
 
     static void rule7() {
-        Sentences.says(6, SECTION, "A definition whose function F is called exactly once in the second expression, and not in its own body, becomes the second expression, in which the call !FE is replaced by the binding :v E body.");
+        Sentences.says(6, SECTION, "7. A definition whose function F is called exactly once in the second expression, and not in its own body, becomes the second expression, in which the call !FE is replaced by the binding :v E body.");
         rule("@Faa!Fx", 0, 7, ":axa");
         rule("@Fa7!Fx", 0, 7, ":ax7");
         rule("@Fa+a1*!F-xy2", 0, 7, "*:a-xy+a12");
